@@ -1,0 +1,91 @@
+import java.util.function.IntSupplier;
+
+/** Compares answers with what is due, prints each that differs, and ends the test. */
+final class Check {
+    private static int checked = 0;
+    private static int wrong = 0;
+
+    private Check() {
+    }
+
+    static void due(String call, long got, long want) {
+        checked++;
+        if (got != want) {
+            wrong++;
+            System.out.println(call + " answered " + got + ", due is " + want);
+        }
+    }
+
+    static void due(String call, boolean got, boolean want) {
+        due(call, got ? 1 : 0, want ? 1 : 0);
+    }
+
+    static void outOfBounds(String call, IntSupplier body) {
+        thrown(call, IndexOutOfBoundsException.class, body);
+    }
+
+    static void badArgument(String call, IntSupplier body) {
+        thrown(call, IllegalArgumentException.class, body);
+    }
+
+    static void badState(String call, IntSupplier body) {
+        thrown(call, IllegalStateException.class, body);
+    }
+
+    // The very class is asked for: what the machine throws of an array is a subclass of the one due.
+    private static void thrown(String call, Class<?> want, IntSupplier body) {
+        checked++;
+        String got;
+        try {
+            got = "answered " + body.getAsInt();
+        } catch (RuntimeException e) {
+            if (e.getClass() == want) {
+                return;
+            }
+            got = "threw " + e.getClass().getSimpleName();
+        }
+        wrong++;
+        System.out.println(call + " " + got + ", due is " + want.getSimpleName());
+    }
+
+    /** All that can be asked of an object, in one text, to see that a call changed nothing. */
+    static String stateOf(Gridpeer grid) {
+        StringBuilder text = new StringBuilder();
+        for (int house = 0; house < 6; house++) {
+            text.append(grid.isMember(house)).append(' ').append(grid.stored(house)).append(' ');
+            text.append(grid.part(house)).append(' ').append(grid.bill(house)).append('\n');
+        }
+        for (int stretch = 0; stretch < 5; stretch++) {
+            text.append(grid.flow(stretch)).append(' ');
+        }
+        for (int way = 0; way < 6; way++) {
+            text.append(grid.went(way)).append(' ');
+        }
+        for (int trade = 0; trade < grid.trades(); trade++) {
+            for (int what = 0; what < 4; what++) {
+                text.append(grid.ofTrade(trade, what)).append(' ');
+            }
+        }
+        text.append(grid.trades()).append(' ').append(grid.quarter()).append(' ').append(grid.mostTradable());
+        text.append(' ').append(grid.pool()).append(' ').append(grid.supplied());
+        return text.toString();
+    }
+
+    static void unchanged(String call, String before, Gridpeer grid) {
+        due(call + " leaves all as it was", before.equals(stateOf(grid)), true);
+    }
+
+    static void trade(Gridpeer grid, int trade, int seller, int buyer, int units, int price) {
+        due("ofTrade(" + trade + ", 0)", grid.ofTrade(trade, 0), seller);
+        due("ofTrade(" + trade + ", 1)", grid.ofTrade(trade, 1), buyer);
+        due("ofTrade(" + trade + ", 2)", grid.ofTrade(trade, 2), units);
+        due("ofTrade(" + trade + ", 3)", grid.ofTrade(trade, 3), price);
+    }
+
+    static void end() {
+        System.out.println(checked + " checks, " + wrong + " wrong");
+        if (wrong != 0 || checked == 0) {
+            System.exit(1);
+        }
+    }
+}

@@ -15,14 +15,6 @@ public final class BatteryTest {
         Check.end();
     }
 
-    private static Gridpeer withStore(int house, int units) {
-        Gridpeer grid = new Gridpeer();
-        grid.meter(house, units);
-        grid.forecast(house, units);
-        grid.clear();
-        return grid;
-    }
-
     private static void rents() {
         Gridpeer grid = new Gridpeer();
         Check.due("rent(0, 1, 1)", grid.rent(0, 1, 1), 21);
@@ -40,7 +32,7 @@ public final class BatteryTest {
     }
 
     private static void rentsNoMoreThanRoom() {
-        Gridpeer grid = withStore(3, 12);
+        Gridpeer grid = Grids.withStore(3, 12);
         String before = Check.stateOf(grid);
         Check.badState("rent(3, 4, 9)", () -> grid.rent(3, 4, 9));
         Check.badState("rent(3, 4, 100)", () -> grid.rent(3, 4, 100));
@@ -87,7 +79,7 @@ public final class BatteryTest {
     }
 
     private static void leaves() {
-        Gridpeer grid = withStore(2, 15);
+        Gridpeer grid = Grids.withStore(2, 15);
         Check.due("leave(2)", grid.leave(2), 60);
         Check.due("bill(2)", grid.bill(2), -60);
         Check.due("pool()", grid.pool(), -60);
@@ -100,7 +92,7 @@ public final class BatteryTest {
         Check.due("part(0) of who stays", grid.part(0), 20);
         grid.clear();
         Check.due("bill(2) behind another clearing", grid.bill(2), -60);
-        Gridpeer dear = withStore(0, 20);
+        Gridpeer dear = Grids.withStore(0, 20);
         dear.setSupplier(100, 73);
         Check.due("leave(0) at the other price then", dear.leave(0), 20 * 73);
         for (int house = 1; house < 6; house++) {
@@ -130,7 +122,7 @@ public final class BatteryTest {
     }
 
     private static void leavesWrong() {
-        Gridpeer grid = withStore(4, 3);
+        Gridpeer grid = Grids.withStore(4, 3);
         grid.leave(5);
         String before = Check.stateOf(grid);
         for (int house : NO_HOUSES) {
@@ -141,7 +133,7 @@ public final class BatteryTest {
     }
 
     private static void asksOfHouses() {
-        Gridpeer grid = withStore(4, 50);
+        Gridpeer grid = Grids.withStore(4, 50);
         String before = Check.stateOf(grid);
         Check.due("stored(4)", grid.stored(4), 20);
         Check.due("stored(3)", grid.stored(3), 0);
@@ -161,7 +153,7 @@ public final class BatteryTest {
             {4, 1, 1, 3}, {4, 1, 2, 6}, {2, 18, 2, 4}, {3, 17, 1, 2}, {4, 16, 4, 9}, {5, 0, 0, 0},
         };
         for (int[] row : rows) {
-            Gridpeer grid = withStore(1, row[0]);
+            Gridpeer grid = Grids.withStore(1, row[0]);
             if (row[1] > 0) {
                 grid.rent(1, 0, row[1]);
             }

@@ -4,15 +4,27 @@ import java.util.function.IntSupplier;
 final class Check {
     private static int checked = 0;
     private static int wrong = 0;
+    private static int sentences = 0;
+    private static String sentence = "";
 
     private Check() {
+    }
+
+    /** Names the sentence of the document that the checks from here on are about. */
+    static void sentence(String text) {
+        sentences++;
+        sentence = text;
+    }
+
+    private static void fault(String text) {
+        wrong++;
+        System.out.println(sentence.isEmpty() ? text : text + " [" + sentence + "]");
     }
 
     static void due(String call, long got, long want) {
         checked++;
         if (got != want) {
-            wrong++;
-            System.out.println(call + " answered " + got + ", due is " + want);
+            fault(call + " answered " + got + ", due is " + want);
         }
     }
 
@@ -33,7 +45,7 @@ final class Check {
     }
 
     // The very class is asked for: what the machine throws of an array is a subclass of the one due.
-    private static void thrown(String call, Class<?> want, IntSupplier body) {
+    static void thrown(String call, Class<?> want, IntSupplier body) {
         checked++;
         String got;
         try {
@@ -44,8 +56,7 @@ final class Check {
             }
             got = "threw " + e.getClass().getSimpleName();
         }
-        wrong++;
-        System.out.println(call + " " + got + ", due is " + want.getSimpleName());
+        fault(call + " " + got + ", due is " + want.getSimpleName());
     }
 
     /** All that can be asked of an object, in one text, to see that a call changed nothing. */
@@ -83,7 +94,8 @@ final class Check {
     }
 
     static void end() {
-        System.out.println(checked + " checks, " + wrong + " wrong");
+        String about = sentences == 0 ? "" : " of " + sentences + " sentences";
+        System.out.println(checked + " checks" + about + ", " + wrong + " wrong");
         if (wrong != 0 || checked == 0) {
             System.exit(1);
         }

@@ -20,18 +20,8 @@ public final class ClearingTest {
         Check.end();
     }
 
-    private static Gridpeer grid(int[] meters, int[] prices) {
-        Gridpeer grid = new Gridpeer();
-        for (int house = 0; house < 6; house++) {
-            grid.meter(house, meters[house]);
-            grid.forecast(house, meters[house]);
-            grid.setPrice(house, prices[house]);
-        }
-        return grid;
-    }
-
     private static void buyersByPriceThenNumber() {
-        Gridpeer grid = grid(new int[] {-2, -2, 6, -2, 0, -2}, new int[] {12, 20, 10, 20, 99, 30});
+        Gridpeer grid = Grids.told(new int[] {-2, -2, 6, -2, 0, -2}, new int[] {12, 20, 10, 20, 99, 30});
         Check.due("clear()", grid.clear(), 6);
         Check.due("trades()", grid.trades(), 3);
         Check.trade(grid, 0, 2, 5, 2, 20);
@@ -46,7 +36,7 @@ public final class ClearingTest {
     }
 
     private static void sellersByPriceThenNearnessThenNumber() {
-        Gridpeer grid = grid(new int[] {1, 1, 1, -9, 1, 1}, new int[] {10, 9, 10, 10, 10, 9});
+        Gridpeer grid = Grids.told(new int[] {1, 1, 1, -9, 1, 1}, new int[] {10, 9, 10, 10, 10, 9});
         Check.due("clear()", grid.clear(), 5);
         Check.due("trades()", grid.trades(), 5);
         Check.trade(grid, 0, 1, 3, 1, 9);
@@ -63,15 +53,15 @@ public final class ClearingTest {
     }
 
     private static void priceAllowsTrade() {
-        Gridpeer equal = grid(new int[] {5, -5, 0, 0, 0, 0}, new int[] {0, 0, 10, 10, 10, 10});
+        Gridpeer equal = Grids.told(new int[] {5, -5, 0, 0, 0, 0}, new int[] {0, 0, 10, 10, 10, 10});
         Check.due("clear() at the same price 0", equal.clear(), 5);
         Check.trade(equal, 0, 0, 1, 5, 0);
-        Gridpeer above = grid(new int[] {5, -5, 0, 0, 0, 0}, new int[] {11, 10, 10, 10, 10, 10});
+        Gridpeer above = Grids.told(new int[] {5, -5, 0, 0, 0, 0}, new int[] {11, 10, 10, 10, 10, 10});
         Check.due("clear() with a seller above", above.clear(), 0);
         Check.due("trades() with a seller above", above.trades(), 0);
         Check.due("went(STORED)", above.went(Gridpeer.STORED), 5);
         Check.due("went(BOUGHT)", above.went(Gridpeer.BOUGHT), 5);
-        Gridpeer dear = grid(new int[] {50, -50, 0, 0, 0, 0}, new int[] {100, 100, 10, 10, 10, 10});
+        Gridpeer dear = Grids.told(new int[] {50, -50, 0, 0, 0, 0}, new int[] {100, 100, 10, 10, 10, 10});
         Check.due("clear() at the same price 100", dear.clear(), 50);
         Check.due("bill(1)", dear.bill(1), 5000);
         Check.due("bill(0)", dear.bill(0), -5000);
@@ -79,7 +69,7 @@ public final class ClearingTest {
     }
 
     private static void priceIsHalfRoundedDown() {
-        Gridpeer grid = grid(new int[] {3, 0, 0, 0, 0, -3}, new int[] {0, 10, 10, 10, 10, 99});
+        Gridpeer grid = Grids.told(new int[] {3, 0, 0, 0, 0, -3}, new int[] {0, 10, 10, 10, 10, 99});
         grid.clear();
         Check.trade(grid, 0, 0, 5, 3, 49);
         Check.due("bill(0)", grid.bill(0), -147);
@@ -88,7 +78,7 @@ public final class ClearingTest {
 
     private static void cutsTheLatestTradeWithTheFlow() {
         // Over the stretch 2 go 0 -> 3 and 1 -> 4 upward, and 5 -> 2 downward.
-        Gridpeer grid = grid(new int[] {10, 10, -6, -10, -10, 6}, new int[] {10, 11, 9, 20, 19, 9});
+        Gridpeer grid = Grids.told(new int[] {10, 10, -6, -10, -10, 6}, new int[] {10, 11, 9, 20, 19, 9});
         grid.setPrice(5, 1);
         grid.setPrice(2, 100);
         grid.setLimit(2, 3);
@@ -112,7 +102,7 @@ public final class ClearingTest {
 
     private static void cutsFromTheFarEnd() {
         // From the far end the trade 0 -> 5 loses 4, and no more is to cut at the stretch 0.
-        Gridpeer grid = grid(new int[] {10, -4, 0, 0, 0, -6}, new int[] {10, 10, 10, 10, 10, 20});
+        Gridpeer grid = Grids.told(new int[] {10, -4, 0, 0, 0, -6}, new int[] {10, 10, 10, 10, 10, 20});
         grid.setLimit(4, 2);
         grid.setLimit(0, 6);
         Check.due("clear()", grid.clear(), 6);
@@ -123,7 +113,7 @@ public final class ClearingTest {
 
     private static void cutsAgainWhenACutUncoversAFlow() {
         // 0 -> 3 with 10 hides 10 of the flow 5 -> 2 over the stretch 2; the cut at the stretch 0 uncovers it.
-        Gridpeer grid = grid(new int[] {10, 0, -12, -10, 0, 12}, new int[] {10, 10, 15, 30, 10, 11});
+        Gridpeer grid = Grids.told(new int[] {10, 0, -12, -10, 0, 12}, new int[] {10, 10, 15, 30, 10, 11});
         grid.setLimit(2, 2);
         grid.setLimit(0, 1);
         Check.due("clear()", grid.clear(), 4);
@@ -137,7 +127,7 @@ public final class ClearingTest {
     }
 
     private static void cutsDownwardFlow() {
-        Gridpeer grid = grid(new int[] {-9, 0, 0, 0, 4, 5}, new int[] {10, 10, 10, 10, 10, 10});
+        Gridpeer grid = Grids.told(new int[] {-9, 0, 0, 0, 4, 5}, new int[] {10, 10, 10, 10, 10, 10});
         grid.setLimit(1, 3);
         Check.due("clear()", grid.clear(), 3);
         Check.trade(grid, 0, 4, 0, 3, 10);
@@ -145,14 +135,14 @@ public final class ClearingTest {
         Check.due("trades() with one cut off", grid.trades(), 2);
         Check.due("flow(1)", grid.flow(1), -3);
         Check.due("flow(4)", grid.flow(4), 0);
-        Gridpeer exact = grid(new int[] {-9, 0, 0, 0, 4, 5}, new int[] {10, 10, 10, 10, 10, 10});
+        Gridpeer exact = Grids.told(new int[] {-9, 0, 0, 0, 4, 5}, new int[] {10, 10, 10, 10, 10, 10});
         exact.setLimit(1, 9);
         Check.due("clear() at the very limit", exact.clear(), 9);
         Check.due("went(CUT) at the very limit", exact.went(Gridpeer.CUT), 0);
     }
 
     private static void goodsBehindCuts() {
-        Gridpeer grid = grid(new int[] {0, 0, 0, 0, 0, 20}, new int[] {10, 10, 10, 10, 10, 10});
+        Gridpeer grid = Grids.told(new int[] {0, 0, 0, 0, 0, 20}, new int[] {10, 10, 10, 10, 10, 10});
         grid.clear();
         Check.due("stored(5)", grid.stored(5), 20);
         grid.meter(0, 30);
@@ -229,18 +219,18 @@ public final class ClearingTest {
 
     private static void mostTradableOverAllMatches() {
         // The dear buyer 5 takes the cheap seller 0 first, and the cheap buyer 4 is left without one.
-        Gridpeer grid = grid(new int[] {10, 10, 0, 0, -10, -10}, new int[] {5, 40, 10, 10, 10, 50});
+        Gridpeer grid = Grids.told(new int[] {10, 10, 0, 0, -10, -10}, new int[] {5, 40, 10, 10, 10, 50});
         Check.due("mostTradable()", grid.mostTradable(), 20);
         Check.due("clear()", grid.clear(), 10);
-        Gridpeer none = grid(new int[] {10, -10, 0, 0, 0, 0}, new int[] {11, 10, 10, 10, 10, 10});
+        Gridpeer none = Grids.told(new int[] {10, -10, 0, 0, 0, 0}, new int[] {11, 10, 10, 10, 10, 10});
         Check.due("mostTradable() when no price allows", none.mostTradable(), 0);
-        Gridpeer same = grid(new int[] {10, -7, 0, 0, 0, 0}, new int[] {10, 10, 10, 10, 10, 10});
+        Gridpeer same = Grids.told(new int[] {10, -7, 0, 0, 0, 0}, new int[] {10, 10, 10, 10, 10, 10});
         same.setLimit(0, 0);
         Check.due("mostTradable() does not see limits", same.mostTradable(), 7);
         Check.due("clear() does", same.clear(), 0);
-        Gridpeer full = grid(new int[] {50, 50, 50, -50, -50, -50}, new int[] {0, 0, 0, 100, 100, 100});
+        Gridpeer full = Grids.told(new int[] {50, 50, 50, -50, -50, -50}, new int[] {0, 0, 0, 100, 100, 100});
         Check.due("mostTradable() of all", full.mostTradable(), 150);
-        Gridpeer one = grid(new int[] {-50, -50, -50, -50, -50, 50}, new int[] {9, 9, 10, 9, 9, 10});
+        Gridpeer one = Grids.told(new int[] {-50, -50, -50, -50, -50, 50}, new int[] {9, 9, 10, 9, 9, 10});
         Check.due("mostTradable() of one buyer who may", one.mostTradable(), 50);
         one.meter(2, -3);
         Check.due("mostTradable() of one buyer who needs 3", one.mostTradable(), 3);
@@ -265,7 +255,7 @@ public final class ClearingTest {
     }
 
     private static void asksOfTheLastClearing() {
-        Gridpeer grid = grid(new int[] {6, -4, 0, 0, 0, 0}, new int[] {10, 10, 10, 10, 10, 10});
+        Gridpeer grid = Grids.told(new int[] {6, -4, 0, 0, 0, 0}, new int[] {10, 10, 10, 10, 10, 10});
         grid.clear();
         String before = Check.stateOf(grid);
         Check.due("trades()", grid.trades(), 1);
@@ -284,7 +274,7 @@ public final class ClearingTest {
     private static void wrongAsks() {
         Gridpeer fresh = new Gridpeer();
         Check.outOfBounds("ofTrade(0, 0) before the first clearing", () -> fresh.ofTrade(0, 0));
-        Gridpeer grid = grid(new int[] {6, -4, -2, 0, 0, 0}, new int[] {10, 10, 10, 10, 10, 10});
+        Gridpeer grid = Grids.told(new int[] {6, -4, -2, 0, 0, 0}, new int[] {10, 10, 10, 10, 10, 10});
         grid.clear();
         String before = Check.stateOf(grid);
         int[] extremes = {-1, Integer.MIN_VALUE, Integer.MAX_VALUE};

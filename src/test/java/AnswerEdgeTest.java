@@ -75,13 +75,21 @@ public final class AnswerEdgeTest {
     private static void quarterCountsClearings() {
         Check.sentence("10: Returns how many quarter hours were cleared");
         Gridpeer grid = new Gridpeer();
-        for (int cleared = 0; cleared < 500; cleared++) {
+        for (int cleared = 0; cleared < 255; cleared++) {
             Check.due("quarter()", grid.quarter(), cleared);
             grid.clear();
         }
-        Check.due("quarter()", grid.quarter(), 500);
-        Check.badState("clear()", grid::clear);
-        Check.due("quarter() behind a refused call", grid.quarter(), 500);
+        // Only now and then, as no more than 512 calls of one object are promised.
+        Gridpeer old = new Gridpeer();
+        for (int cleared = 0; cleared < 500; cleared++) {
+            if (cleared % 100 == 99) {
+                Check.due("quarter()", old.quarter(), cleared);
+            }
+            old.clear();
+        }
+        Check.due("quarter()", old.quarter(), 500);
+        Check.badState("clear()", old::clear);
+        Check.due("quarter() behind a refused call", old.quarter(), 500);
     }
 
     private static void dueMost(int due, int[] meters, int[] prices) {

@@ -59,6 +59,20 @@ final class Check {
         fault(call + " " + got + ", due is " + want.getSimpleName());
     }
 
+    /** Whatever the call answers or refuses: only a throw statement may throw in it, never the machine. */
+    static void notByItself(String call, IntSupplier body) {
+        checked++;
+        try {
+            body.getAsInt();
+        } catch (RuntimeException e) {
+            Class<?> got = e.getClass();
+            if (got != IndexOutOfBoundsException.class && got != IllegalArgumentException.class
+                    && got != IllegalStateException.class) {
+                fault(call + " threw " + got.getSimpleName());
+            }
+        }
+    }
+
     /** All that can be asked of an object, in one text, to see that a call changed nothing. */
     static String stateOf(Gridpeer grid) {
         StringBuilder text = new StringBuilder();

@@ -1,13 +1,18 @@
 import java.util.Random;
+import java.util.function.IntSupplier;
 
 /** Runs of calls by chance, always the same ones, on the class and on the model side by side. */
 public final class ModelTest {
-    private static final int RUNS = 3000;
-    private static final int CALLS = 150;
+    private static final int RUNS = 6000;
+    // What an object answers behind these is free.
+    private static final int CALLS = 512;
+    private static final int DEAREST_STEP = 30;
+    private static final int WHOLE_COMPARISON = 80;
 
     private final Random random;
     private final Gridpeer grid = new Gridpeer();
     private final Model model = new Model();
+    private int made = 0;
 
     private ModelTest(int seed) {
         random = new Random(seed);
@@ -15,41 +20,59 @@ public final class ModelTest {
 
     public static void main(String[] args) {
         for (int seed = 0; seed < RUNS; seed++) {
-            ModelTest run = new ModelTest(seed);
-            for (int call = 0; call < CALLS; call++) {
-                run.callOne("seed " + seed + " call " + call + " ");
-            }
+            new ModelTest(seed).run("seed " + seed + " call ");
         }
         Check.end();
+    }
+
+    private void run(String seed) {
+        while (made + DEAREST_STEP + WHOLE_COMPARISON <= CALLS) {
+            callOne(seed);
+        }
+        for (int part = 0; part < 4; part++) {
+            compare(seed, part);
+        }
+        Check.due(seed + "calls made", made <= CALLS, true);
     }
 
     private int pick(int least, int most) {
         return least + random.nextInt(most - least + 1);
     }
 
-    private void callOne(String at) {
+    private void due(String at, IntSupplier body, int due) {
+        made++;
+        Check.due(at + made, body.getAsInt(), due);
+    }
+
+    private void badState(String at, IntSupplier body) {
+        made++;
+        Check.badState(at + made, body);
+    }
+
+    private void callOne(String seed) {
         int kind = random.nextInt(40);
         if (kind < 16) {
-            tellMeter(at);
+            tellMeter(seed + "meter ");
         } else if (kind < 20) {
-            tellForecast(at);
+            tellForecast(seed + "forecast ");
         } else if (kind < 25) {
-            tellPrice(at);
+            tellPrice(seed + "setPrice ");
         } else if (kind < 30) {
-            tellLimit(at);
+            tellLimit(seed + "setLimit ");
         } else if (kind < 31) {
             int sells = pick(1, 100);
             model.sells = sells;
             model.buys = pick(0, sells);
+            made++;
             grid.setSupplier(model.sells, model.buys);
         } else if (kind < 34) {
-            rent(at);
+            rent(seed + "rent ");
         } else if (kind == 34 && random.nextInt(12) == 0) {
-            leave(at);
+            leave(seed + "leave ");
         } else if (kind >= 35) {
-            Check.due(at + "mostTradable()", grid.mostTradable(), model.mostTradable());
-            Check.due(at + "clear()", grid.clear(), model.clear());
-            compare(at);
+            due(seed + "mostTradable ", grid::mostTradable, model.mostTradable());
+            due(seed + "clear ", grid::clear, model.clear());
+            compare(seed, random.nextInt(4));
         }
     }
 
@@ -58,10 +81,10 @@ public final class ModelTest {
         int units = pick(-50, 50);
         Model.House other = model.houses.get(house);
         if (!other.member) {
-            Check.badState(at + "meter", () -> grid.meter(house, units));
+            badState(at, () -> grid.meter(house, units));
             return;
         }
-        Check.due(at + "meter", grid.meter(house, units), other.meter);
+        due(at, () -> grid.meter(house, units), other.meter);
         other.meter = units;
     }
 
@@ -70,24 +93,24 @@ public final class ModelTest {
         int units = pick(-50, 50);
         Model.House other = model.houses.get(house);
         if (!other.member) {
-            Check.badState(at + "forecast", () -> grid.forecast(house, units));
+            badState(at, () -> grid.forecast(house, units));
             return;
         }
-        Check.due(at + "forecast", grid.forecast(house, units), other.forecast);
+        due(at, () -> grid.forecast(house, units), other.forecast);
         other.forecast = units;
     }
 
     private void tellPrice(String at) {
         int house = pick(0, 5);
         int price = random.nextInt(4) == 0 ? pick(0, 100) : pick(8, 12);
-        Check.due(at + "setPrice", grid.setPrice(house, price), model.houses.get(house).price);
+        due(at, () -> grid.setPrice(house, price), model.houses.get(house).price);
         model.houses.get(house).price = price;
     }
 
     private void tellLimit(String at) {
         int stretch = pick(0, 4);
         int units = random.nextInt(4) == 0 ? pick(0, 300) : pick(0, 20);
-        Check.due(at + "setLimit", grid.setLimit(stretch, units), model.limits[stretch]);
+        due(at, () -> grid.setLimit(stretch, units), model.limits[stretch]);
         model.limits[stretch] = units;
     }
 
@@ -97,48 +120,80 @@ public final class ModelTest {
         int units = pick(1, random.nextBoolean() ? 10 : 100);
         Model.House from = model.houses.get(house);
         if (house == other) {
-            Check.badArgument(at + "rent", () -> grid.rent(house, other, units));
+            made++;
+            Check.badArgument(at + made, () -> grid.rent(house, other, units));
         } else if (!from.member || !model.houses.get(other).member || from.part - units < from.stored) {
-            Check.badState(at + "rent", () -> grid.rent(house, other, units));
+            badState(at, () -> grid.rent(house, other, units));
         } else {
-            Check.due(at + "rent", grid.rent(house, other, units), model.rent(house, other, units));
+            due(at, () -> grid.rent(house, other, units), model.rent(house, other, units));
         }
     }
 
     private void leave(String at) {
         int house = pick(0, 5);
         if (model.houses.get(house).member) {
-            Check.due(at + "leave", grid.leave(house), model.leave(house));
+            due(at, () -> grid.leave(house), model.leave(house));
         } else {
-            Check.badState(at + "leave", () -> grid.leave(house));
+            badState(at, () -> grid.leave(house));
         }
     }
 
-    private void compare(String at) {
-        for (Model.House house : model.houses) {
-            Check.due(at + "isMember", grid.isMember(house.number), house.member);
-            Check.due(at + "stored", grid.stored(house.number), house.stored);
-            Check.due(at + "part", grid.part(house.number), house.part);
-            Check.due(at + "bill", grid.bill(house.number), house.bill);
+    /** Compares a fourth of all that can be asked: all of it behind each clearing would leave few calls to tell. */
+    private void compare(String seed, int part) {
+        if (part == 0) {
+            compareHouses(seed);
+        } else if (part == 1) {
+            compareWires(seed);
+        } else if (part == 2) {
+            compareTrades(seed);
+        } else {
+            compareSums(seed);
         }
+    }
+
+    private void compareHouses(String seed) {
+        for (Model.House house : model.houses) {
+            due(seed + "isMember ", () -> grid.isMember(house.number) ? 1 : 0, house.member ? 1 : 0);
+            due(seed + "stored ", () -> grid.stored(house.number), house.stored);
+            due(seed + "part ", () -> grid.part(house.number), house.part);
+            due(seed + "bill ", () -> grid.bill(house.number), house.bill);
+        }
+    }
+
+    private void compareWires(String seed) {
         for (int stretch = 0; stretch < 5; stretch++) {
-            Check.due(at + "flow", grid.flow(stretch), model.flow(stretch));
+            int same = stretch;
+            due(seed + "flow ", () -> grid.flow(same), model.flow(stretch));
         }
         for (int way = 0; way < 6; way++) {
-            Check.due(at + "went", grid.went(way), model.went[way]);
+            int same = way;
+            due(seed + "went ", () -> grid.went(same), model.went[way]);
         }
-        Check.due(at + "trades", grid.trades(), model.trades.size());
-        for (int trade = 0; trade < Math.min(grid.trades(), model.trades.size()); trade++) {
+    }
+
+    private void compareTrades(String seed) {
+        int trades = model.trades.size();
+        due(seed + "trades ", grid::trades, trades);
+        for (int trade = 0; trade < trades; trade++) {
+            int same = trade;
             Model.Trade other = model.trades.get(trade);
-            Check.trade(grid, trade, other.seller.number, other.buyer.number, other.units, other.price);
+            due(seed + "seller ", () -> grid.ofTrade(same, 0), other.seller.number);
+            due(seed + "buyer ", () -> grid.ofTrade(same, 1), other.buyer.number);
+            due(seed + "units left ", () -> grid.ofTrade(same, 2), other.units);
+            due(seed + "price ", () -> grid.ofTrade(same, 3), other.price);
         }
-        Check.due(at + "pool", grid.pool(), model.pool);
-        Check.due(at + "supplied", grid.supplied(), model.supplied);
-        Check.due(at + "quarter", grid.quarter(), model.quarter);
+    }
+
+    private void compareSums(String seed) {
+        due(seed + "quarter ", grid::quarter, model.quarter);
         int bills = 0;
         for (int house = 0; house < 6; house++) {
+            made++;
             bills += grid.bill(house);
         }
-        Check.due(at + "no cent comes from nowhere", bills, grid.pool() + grid.supplied());
+        made += 2;
+        Check.due(seed + made + ": no cent comes from nowhere", bills, grid.pool() + grid.supplied());
+        due(seed + "pool ", grid::pool, model.pool);
+        due(seed + "supplied ", grid::supplied, model.supplied);
     }
 }

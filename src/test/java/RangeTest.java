@@ -228,29 +228,26 @@ public final class RangeTest {
         Check.sentence("An object is used for at most 512 calls after it has been made");
         Gridpeer grid = new Gridpeer();
         int bill = 0;
-        for (int round = 0; round < 256; round++) {
+        for (int round = 0; round < 255; round++) {
             Check.due("meter", grid.meter(0, -50), 0);
             Check.due("clear()", grid.clear(), 0);
             bill += 50 * 30 + 50;
         }
-        Check.due("bill(0) behind 512 calls", grid.bill(0), bill);
-        Check.due("pool() behind 512 calls", grid.pool(), 256 * 50);
+        Check.due("bill(0), the 511th call", grid.bill(0), bill);
+        Check.due("pool(), the 512th call", grid.pool(), 255 * 50);
     }
 
     private static void neverThrowsByItselfLater() {
-        Check.sentence("what later calls answer is free; no call may ever throw by itself");
+        Check.sentence("what later calls answer is free (LANGUAGE.md, 7: no call may ever throw by itself)");
         Gridpeer grid = Grids.rich();
         for (int call = 0; call < 4000; call++) {
-            int house = call % 5;
-            grid.meter(house, call % 101 - 50);
-            grid.forecast(house, 50 - call % 101);
-            grid.mostTradable();
-            if (grid.quarter() < 500) {
-                grid.clear();
-            } else {
-                Check.badState("clear() behind 500", grid::clear);
-            }
+            int house = call % 7 - 1;
+            int units = call % 103 - 51;
+            Check.notByItself("meter", () -> grid.meter(house, units));
+            Check.notByItself("forecast", () -> grid.forecast(house, -units));
+            Check.notByItself("mostTradable", grid::mostTradable);
+            Check.notByItself("clear", grid::clear);
+            Check.notByItself("ofTrade", () -> grid.ofTrade(house, 0));
         }
-        Check.due("quarter()", grid.quarter(), 500);
     }
 }

@@ -225,14 +225,45 @@ public final class RefusalTest {
         refused("leave(5)", STATE, grid -> grid.leave(5));
     }
 
-    private static void clearBehindFiveHundred() {
-        Check.sentence("9: IllegalStateException if 500 were cleared");
-        Gridpeer grid = Grids.old();
-        String before = Check.stateOf(grid);
+    /**
+     * 500 quarter hours were cleared, in the last one house 0 sold 4 of its 9 units to house 1, and house 2 told
+     * 5 for the next one; clear was refused twice then. That is 505 calls: the next seven answers are promised.
+     */
+    private static Gridpeer behindRefusedClear() {
+        Gridpeer grid = new Gridpeer();
+        for (int cleared = 0; cleared < 499; cleared++) {
+            grid.clear();
+        }
+        grid.meter(0, 9);
+        grid.meter(1, -4);
+        grid.clear();
+        grid.meter(2, 5);
         Check.badState("clear() for the 501st time", grid::clear);
         Check.badState("clear() once more", grid::clear);
-        Check.unchanged("clear() for the 501st time", before, grid);
-        Check.due("all is as it was", Grids.wholeOf(grid).equals(Grids.wholeOf(Grids.old())), true);
+        return grid;
+    }
+
+    private static void clearBehindFiveHundred() {
+        Check.sentence("9: IllegalStateException if 500 were cleared");
+        Gridpeer last = behindRefusedClear();
+        Check.due("quarter()", last.quarter(), 500);
+        Check.due("trades()", last.trades(), 1);
+        Check.due("ofTrade(0, 2)", last.ofTrade(0, 2), 4);
+        Check.due("went(TRADED)", last.went(Gridpeer.TRADED), 4);
+        Check.due("went(STORED)", last.went(Gridpeer.STORED), 5);
+        Check.due("flow(0)", last.flow(0), 4);
+        Check.due("meter(2, 0)", last.meter(2, 0), 5);
+        int[] bills = {9 - 40, 40 + 4, 0, 0, 0, 0};
+        for (int house = 0; house < 6; house++) {
+            Gridpeer owed = behindRefusedClear();
+            Check.due("bill(" + house + ")", owed.bill(house), bills[house]);
+            Check.due("stored(" + house + ")", owed.stored(house), house == 0 ? 5 : 0);
+            Check.due("part(" + house + ")", owed.part(house), 20);
+            Check.due("isMember(" + house + ")", owed.isMember(house), true);
+            Check.due("pool()", owed.pool(), 9 + 4);
+            Check.due("supplied()", owed.supplied(), 0);
+            Check.due("forecast(" + house + ", 1)", owed.forecast(house, 1), 0);
+        }
     }
 
     private static void ofTradeOfNoTrade() {
@@ -335,9 +366,8 @@ public final class RefusalTest {
             Check.badState("leave", () -> troubled.leave(5));
             for (Gridpeer grid : new Gridpeer[] {calm, troubled}) {
                 Grids.tell(grid, 9 - round, -7, 4, round - 12, 2 * round);
-                grid.clear();
             }
-            Check.due("both tell the same", Check.stateOf(troubled).equals(Check.stateOf(calm)), true);
+            Check.due("clear() of both", troubled.clear(), calm.clear());
         }
         Check.due("both hold the same", Grids.wholeOf(troubled).equals(Grids.wholeOf(calm)), true);
     }
